@@ -689,17 +689,7 @@ public final class TopWheel {
         int low = tape.least(MOST_MOVE + 1);
         int high = tape.greatest();
         tape.length = 0;
-        int fitting = 0;
-        int least = NONE;
-        for (int r = 1; r <= MOST_REACH; r++) {
-            for (int f = 0; f <= MOST_FARTHER; f++) {
-                if (canMove(f, r, low, high)) {
-                    fitting++;
-                    least = least == NONE ? r : least;
-                }
-            }
-        }
-        return reach ? least : fitting;
+        return reach ? leastReach(low, high) : fittingPairs(low, high, 0);
     }
 
     public int watch() throws IllegalArgumentException {
@@ -748,6 +738,17 @@ public final class TopWheel {
 
     private static boolean canMove(int farther, int reach, int low, int high) {
         return farther + 1 <= low && high <= farther + reach;
+    }
+
+    private static int leastReach(int low, int high) {
+        for (int r = 1; r <= MOST_REACH; r++) {
+            for (int f = 0; f <= MOST_FARTHER; f++) {
+                if (canMove(f, r, low, high)) {
+                    return r;
+                }
+            }
+        }
+        return NONE;
     }
 
     /** How many pairs fit moves from low to high and one that is seen besides (0: none is). */

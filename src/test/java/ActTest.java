@@ -114,7 +114,10 @@ public final class ActTest {
         CHECK.state("bribe(1)", () -> x.bribe(1));
         CHECK.same("no stop", x.count(3), 0);
         CHECK.same("no terms", x.party(2, 0), 0);
-        x.undo();
+        CHECK.fair(x, "chest 10;top 0");
+        CHECK.same("bribe of the last 10", x.bribe(1), 1);
+        CHECK.same("nothing is left", x.count(6), 0);
+        CHECK.fair(x, "chest 75;top 0");
         CHECK.same("bribe(3)", x.bribe(3), 3);
         CHECK.same("bribe(4)", x.bribe(4), 7);
     }

@@ -49,6 +49,7 @@ public final class AheadTest {
         CHECK.fair(late, "reach 1;fare 1;rider weight 1 purse 12 party 0 in 4;rider weight 1 purse 12 party 0 in 4;"
                 + "rider weight 1 purse 1 party 0;bolts 0 0;bolts 1 0;bolts 2 0;bolts 3 0;bolts 5 0;bolts 6 0;bolts 7 0");
         CHECK.same("the twelfth time at the bottom", late.boards(2, 0), 96);
+        CHECK.same("it governs by 100", late.ruled(2, 0), 100);
         CHECK.fair(late, "top 7");
         CHECK.same("it would be 101 less 4", late.boards(2, 0), 89);
         CHECK.fair(late, "top 3;bolts 4 1");
@@ -59,6 +60,16 @@ public final class AheadTest {
         CHECK.same("by 100", later.boards(2, 0), 100);
         CHECK.fair(later, "top 3");
         CHECK.same("it would be by 101", later.boards(2, 0), -1);
+        CHECK.fair(later, "top 7");
+        CHECK.same("by 97", later.boards(2, 0), 97);
+        CHECK.same("it would govern by 101", later.ruled(2, 0), -1);
+        TopWheel windy = new TopWheel();
+        CHECK.fair(windy, "reach 1;wind 100;rider weight 1 purse 1 party 0;bolts 1 1;bolts 0 0;bolts 2 0;bolts 3 0;bolts 4 0;"
+                + "bolts 5 0;bolts 6 0;bolts 7 0");
+        CHECK.same("no wind ahead, though the next one would close it", windy.boards(0, 0), 5);
+        CHECK.same("and it governs", windy.ruled(0, 0), 9);
+        windy.stops(1);
+        CHECK.same("now it is closed", windy.boards(0, 0), -1);
     }
 
     private static void ruled() {
@@ -98,9 +109,27 @@ public final class AheadTest {
                 + "bolts 7 0;bolts 0 0;bolts 1 0;bolts 2 0;bolts 3 0");
         CHECK.same("in at 8, off at 16", row.boards(1, 0), 8);
         CHECK.same("the row does not matter: as now at once", row.round(0), 16);
+        longRounds();
         TopWheel slow = new TopWheel();
         CHECK.law(slow, "go 1 if stop>0");
         CHECK.same("nobody governs, so nothing holds", slow.round(0), 8);
+    }
+
+    /** One gets in at the only open cradle, pays 1 each time it is at the bottom, and gets off. */
+    private static void longRounds() {
+        String closed = ";bolts 0 0;bolts 1 0;bolts 2 0;bolts 3 0;bolts 5 0;bolts 6 0;bolts 7 0";
+        int[] due = {16, 24, 32, 40, 48, 56, 64, -1};
+        for (int purse = 1; purse <= 8; purse++) {
+            TopWheel x = new TopWheel();
+            CHECK.fair(x, "reach 1;fare 1;rider weight 1 purse " + purse + " party 0" + closed);
+            CHECK.same("round by ones with " + purse, x.round(0), due[purse - 1]);
+        }
+        for (int purse = 11; purse <= 12; purse++) {
+            TopWheel x = new TopWheel();
+            CHECK.fair(x, "reach 1;fare 1;rider weight 9 purse 1 party 0 in 0;rider weight 1 purse " + purse + " party 0" + closed);
+            CHECK.law(x, "go 3 if weight>8;less 30 if weight>8");
+            CHECK.same("round by five with " + purse, x.round(0), purse == 11 ? 60 : -1);
+        }
     }
 
     private static void ruin() {

@@ -91,6 +91,13 @@ public final class TextTest {
         CHECK.wrongFair(x, "fare", 4);
         CHECK.wrongFair(x, "fare ", 5);
         CHECK.wrongFair(x, "fare x", 5);
+        CHECK.wrongFair(x, "fare :", 5);
+        CHECK.wrongFair(x, "fare /", 5);
+        CHECK.wrongFair(x, "farez 5", 0);
+        CHECK.wrongFair(x, "farea 5", 0);
+        CHECK.wrongFair(x, "fare`5", 4);
+        CHECK.wrongFair(x, "fare{5", 4);
+        CHECK.wrongFair(x, ";".repeat(400), 0);
         CHECK.wrongFair(x, "fares 5", 0);
         CHECK.wrongFair(x, "Fare 5", 0);
         CHECK.wrongFair(x, "fare 0005", 5);
