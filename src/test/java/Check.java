@@ -3,16 +3,30 @@ final class Check {
     private final String name;
     private int calls = 0;
     private int wrong = 0;
+    /** What is being tested, in the document's words; null where a test quotes none. */
+    private String sentence = null;
 
     Check(String name) {
         this.name = name;
     }
 
+    /** The answers from here on are due by these words of the document, if they stand in it. */
+    void sentence(String words, boolean stands) {
+        sentence = words;
+        if (!stands) {
+            fault("the document does not say this there, or says it twice");
+        }
+    }
+
+    void fault(String what) {
+        wrong++;
+        System.out.println(name + ": " + what + (sentence == null ? "" : "\n    by: " + sentence));
+    }
+
     void same(String call, long got, long want) {
         calls++;
         if (got != want) {
-            wrong++;
-            System.out.println(name + ": " + call + " answered " + got + ", due is " + want);
+            fault(call + " answered " + got + ", due is " + want);
         }
     }
 
@@ -20,20 +34,31 @@ final class Check {
         same(call, got ? 1 : 0, want ? 1 : 0);
     }
 
+    /** Two texts of lines; only the lines that differ are told. */
+    void alike(String call, String got, String want) {
+        calls++;
+        String[] gotLines = got.split("\n");
+        String[] wantLines = want.split("\n");
+        for (int i = 0; i < Math.max(gotLines.length, wantLines.length); i++) {
+            String one = i < gotLines.length ? gotLines[i] : "nothing";
+            String other = i < wantLines.length ? wantLines[i] : "nothing";
+            if (!one.equals(other)) {
+                fault(call + ": there is " + one + ", due is " + other);
+            }
+        }
+    }
+
     void thrown(String call, Class<? extends RuntimeException> due, Runnable run) {
         calls++;
         try {
             run.run();
         } catch (RuntimeException e) {
-            if (e.getClass() == due) {
-                return;
+            if (e.getClass() != due) {
+                fault(call + " threw " + e + ", due is " + due.getSimpleName());
             }
-            System.out.println(name + ": " + call + " threw " + e + ", due is " + due.getSimpleName());
-            wrong++;
             return;
         }
-        wrong++;
-        System.out.println(name + ": " + call + " threw nothing, due is " + due.getSimpleName());
+        fault(call + " threw nothing, due is " + due.getSimpleName());
     }
 
     void index(String call, Runnable run) {
@@ -58,8 +83,7 @@ final class Check {
         try {
             x.fair();
         } catch (RuntimeException e) {
-            wrong++;
-            System.out.println(name + ": '" + text + "' threw " + e + " at " + x.fault());
+            fault("'" + text + "' threw " + e + " at " + x.fault());
         }
     }
 
@@ -69,8 +93,7 @@ final class Check {
         try {
             x.law();
         } catch (RuntimeException e) {
-            wrong++;
-            System.out.println(name + ": '" + text + "' threw " + e + " at " + x.fault());
+            fault("'" + text + "' threw " + e + " at " + x.fault());
         }
     }
 
