@@ -97,12 +97,16 @@ final class PromiseBounds extends Bounds {
         check.same("fewer are left", x.end(7), false);
         check.same("fare 7", x.fair(), 1);
         check.same("fare 7, not 78", x.count(5), 7);
+        x.feed(0x66617265, 0x20372020, 0x20202020, 0x20202020, 0x20202020);
+        check.same("the same cut ahead of its number", x.end(5), true);
+        check.argument("what was cut is not read", x::fair);
+        check.same("more must come", x.fault(), 5);
         x.feed(0x66617265, 0x20373820, 0, 0, 0);
         check.same("none", x.end(0), true);
         check.same("none are left", x.end(1), false);
         check.same("a feed begins anew", x.feed(0, 0, 0, 0, 0), 20);
         x.end(0);
-        x.feed(0x05011e1e, 0x1e1e1e1e, 0x1e1e1e1e, 0x1e1e1e1e, 0x1e1e1e1e);
+        x.feed(0x051e011e, 0x1e1e1e1e, 0x1e1e1e1e, 0x1e1e1e1e, 0x1e1e1e1e);
         x.end(1);
         check.same("moves of the first alone", x.moves(false), 30);
         x.feed(0x05060101, 0x01010101, 0x01010101, 0x01010101, 0x01010101);

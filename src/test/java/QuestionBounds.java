@@ -130,6 +130,10 @@ final class QuestionBounds extends Bounds {
         check.same("its own one, though closed", x.seat(2), 4);
         check.fair(x, onlyOpen(4));
         check.same("none", x.seat(0), NONE);
+        TopWheel full = wheel(lines(rider(1, 1, 0, 0), 2) + ";" + lines(rider(1, 1, 0, 4), 2) + ";" + rider(9, 1, 0));
+        check.same("0 and 4 have no room: of the others the least", full.seat(4), 1);
+        check.fair(full, onlyOpen(0) + ";bolts 7 1");
+        check.same("only 7 has room", full.seat(4), 7);
         TopWheel tilt = wheel(rider(5, 1, 0, 1) + ";" + rider(9, 1, 0));
         check.same("below 0 by 4 is nearer than above it by 5", tilt.seat(1), 5);
         TopWheel like = wheel(rider(2, 1, 0, 1) + ";" + rider(4, 1, 0));
